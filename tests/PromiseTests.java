@@ -218,6 +218,13 @@ public final class PromiseTests {
     dueError("puts 1 1", 0, 1, 0);
     dueError("putdel 1 1", 0, 1, 0);
     dueError("Put 1 1", 0, 1, 0);
+    dueError("tickz 1", 0, 1, 0);
+    dueError("tick{1", 4, 1, 0);
+    dueError("tick`1", 4, 1, 0);
+    dueError("tick/1", 4, 1, 0);
+    dueError("tick:1", 4, 1, 0);
+    dueError("tick 1:", 6, 1, 0);
+    dueError("tick 1/", 6, 1, 0);
     dueError(" put x", 5, 1, 0);
     dueError("put put", 4, 1, 0);
     dueError("put 1", 5, 1, 0);

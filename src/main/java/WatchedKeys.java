@@ -603,7 +603,6 @@ public final class WatchedKeys {
     return found;
   }
 
-  /** Runs a statement that the script has read, on the numbers that it has read. */
   private int perform(Verb verb, Store store) {
     int one = script.numberAt(0);
     int two = script.numberAt(1);
@@ -898,12 +897,8 @@ public final class WatchedKeys {
     }
 
     int waiting(EventRow events) {
-      return waitingBefore(events.count, events);
-    }
-
-    private int waitingBefore(int end, EventRow events) {
       int waiting = 0;
-      for (int i = next; i < end; i++) {
+      for (int i = next; i < events.count; i++) {
         Event event = events.at(i);
         if (event != null && sees(event)) {
           waiting++;
@@ -974,9 +969,14 @@ public final class WatchedKeys {
       missed = 0;
     }
 
-    /** Counts what it misses when the first events go. */
+    // Called while the events that go are still there, since those that wait are counted.
     void loseFirst(int gone, EventRow events) {
-      missed += waitingBefore(gone, events);
+      for (int i = next; i < gone; i++) {
+        Event event = events.at(i);
+        if (event != null && sees(event)) {
+          missed++;
+        }
+      }
       next = Math.max(0, next - gone);
     }
 
@@ -1058,7 +1058,6 @@ public final class WatchedKeys {
     }
   }
 
-  /** The conditions and both rows of steps. */
   private static final class Transaction {
     private final int[] keys = new int[MOST_PARTS];
     private final int[] whats = new int[MOST_PARTS];
@@ -1230,7 +1229,7 @@ public final class WatchedKeys {
       }
     }
 
-    /** Writes a key in the change that is being made. */
+    // A change is a row of writes and deletions, and endChange() behind them.
     private void writeOne(int key, int value, int lease) {
       Key written = keys.find(key);
       int before = written == null ? NO_VALUE : written.value;
@@ -1248,7 +1247,6 @@ public final class WatchedKeys {
       record(WRITTEN, written, before);
     }
 
-    /** Deletes the key at an index in the change that is being made. */
     private void deleteAt(int index) {
       Key gone = keys.at(index);
       if (gone != null) {
@@ -1270,8 +1268,8 @@ public final class WatchedKeys {
       }
     }
 
-    /** Lets the revision pass if the change has made an event. */
     private void endChange() {
+      // No revision passes for a change that made no event.
       Event last = events.at(events.count - 1);
       if (last == null || last.revision <= revision) {
         return;
@@ -1724,9 +1722,10 @@ public final class WatchedKeys {
         end++;
       }
       for (int i = 0; i < VERBS.length; i++) {
-        if (isWord(VERBS[i].word, end)) {
+        Verb verb = VERBS[i];
+        if (verb != null && isWord(verb.word, end)) {
           at = end;
-          return VERBS[i];
+          return verb;
         }
       }
       return null;
