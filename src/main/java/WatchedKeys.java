@@ -1231,31 +1231,31 @@ public final class WatchedKeys {
 
     // A change is a row of writes and deletions, and endChange() behind them.
     private void writeOne(int key, int value, int lease) {
-      Key written = keys.find(key);
-      int before = written == null ? NO_VALUE : written.value;
-      if (written == null) {
-        written = keys.insert(key);
-        if (written == null) {
+      Key found = keys.find(key);
+      int before = found == null ? NO_VALUE : found.value;
+      if (found == null) {
+        found = keys.insert(key);
+        if (found == null) {
           return;
         }
-        written.created = revision + 1;
+        found.created = revision + 1;
       }
-      written.value = value;
-      written.lease = lease;
-      written.written = revision + 1;
-      written.version++;
-      record(WRITTEN, written, before);
+      found.value = value;
+      found.lease = lease;
+      found.written = revision + 1;
+      found.version++;
+      addEvent(WRITTEN, found, before);
     }
 
     private void deleteAt(int index) {
       Key gone = keys.at(index);
       if (gone != null) {
-        record(DELETED, gone, gone.value);
+        addEvent(DELETED, gone, gone.value);
         keys.removeAt(index);
       }
     }
 
-    private void record(int kind, Key key, int before) {
+    private void addEvent(int kind, Key key, int before) {
       Event event = events.add();
       if (event != null) {
         event.revision = revision + 1;
