@@ -1,131 +1,7 @@
-import java.util.ArrayList;
-import java.util.List;
-
 /** One test for each promise of ../shared/DOC.md: ordinary inputs, edges and wrong inputs. */
-public final class PromiseTests {
-  private interface Call {
-    Object answer();
-  }
-
+public final class PromiseTests extends Bench {
   private interface Test {
     void run();
-  }
-
-  private static final int NONE = WatchedKeys.NONE;
-  private static final int FULL = WatchedKeys.FULL;
-  private static final int NO_LEASE = WatchedKeys.NO_LEASE;
-  private static final int TWICE = WatchedKeys.TWICE;
-  private static final int MISSED = WatchedKeys.MISSED;
-  private static final int COMPACTED = WatchedKeys.COMPACTED;
-  private static final int FUTURE = WatchedKeys.FUTURE;
-  private static final int NO_VALUE = WatchedKeys.NO_VALUE;
-  private static final int LEAST = Integer.MIN_VALUE;
-  private static final int MOST = Integer.MAX_VALUE;
-
-  private static final List<String> wrong = new ArrayList<>();
-  private static int promise;
-
-  private static void due(Object want, Object got) {
-    if (!want.equals(got)) {
-      int line = 0;
-      for (StackTraceElement frame : new Throwable().getStackTrace()) {
-        if (!frame.getMethodName().startsWith("due") && line == 0) {
-          line = frame.getLineNumber();
-        }
-      }
-      wrong.add("promise " + promise + ", line " + line + ": answered " + got + ", due is " + want);
-    }
-  }
-
-  private static void dueIllegal(Call call) {
-    due("IllegalArgumentException", thrown(call));
-  }
-
-  private static void dueOutside(Call call) {
-    due("IndexOutOfBoundsException", thrown(call));
-  }
-
-  /** What a call throws; a text of the machine's own with it is told too, so that it differs. */
-  private static String thrown(Call call) {
-    try {
-      return "answer " + call.answer();
-    } catch (RuntimeException e) {
-      String text = e.getMessage() == null ? "" : " " + e.getMessage();
-      return e.getClass().getSimpleName() + text;
-    }
-  }
-
-  private static void append(WatchedKeys x, String text) {
-    for (int i = 0; i < text.length(); i += 8) {
-      long bytes = 0;
-      for (int j = i; j < Math.min(text.length(), i + 8); j++) {
-        bytes = bytes << 8 | text.charAt(j);
-      }
-      x.append(bytes);
-    }
-  }
-
-  private static WatchedKeys loaded(String text) {
-    WatchedKeys x = new WatchedKeys();
-    append(x, text);
-    if (x.load() < 0) {
-      wrong.add("promise " + promise + ": script refused: " + text);
-    }
-    return x;
-  }
-
-  /** Loads a wrong script and looks at the position, the kind and the statement of its error. */
-  private static void dueError(String text, int position, int kind, int statement) {
-    WatchedKeys x = new WatchedKeys();
-    append(x, text);
-    due("\"" + text + "\" " + (-100 - position) + " " + kind + " " + statement,
-        "\"" + text + "\" " + x.load() + " " + x.loadError() + " " + x.loadStatement());
-  }
-
-  private static String output(WatchedKeys x) {
-    StringBuilder text = new StringBuilder();
-    for (int i = 0; x.outputByte(i) != NONE; i++) {
-      text.append((char) x.outputByte(i));
-    }
-    return text.toString();
-  }
-
-  private static String event(WatchedKeys x, int index) {
-    StringBuilder text = new StringBuilder();
-    for (int what = 0; what <= 5; what++) {
-      text.append(what == 0 ? "" : " ").append(x.event(index, what));
-    }
-    return text.toString();
-  }
-
-  private static String taken(WatchedKeys x, int watch) {
-    StringBuilder text = new StringBuilder();
-    for (int what = 0; what <= 5; what++) {
-      text.append(what == 0 ? "" : " ").append(x.taken(watch, what));
-    }
-    return text.toString();
-  }
-
-  private static String watch(WatchedKeys x, int watch) {
-    StringBuilder text = new StringBuilder();
-    for (int what = 0; what <= 6; what++) {
-      text.append(what == 0 ? "" : " ").append(x.watchValue(watch, what));
-    }
-    return text.toString();
-  }
-
-  private static String counts(WatchedKeys x) {
-    StringBuilder text = new StringBuilder();
-    for (int what = 0; what <= 9; what++) {
-      text.append(what == 0 ? "" : " ").append(x.count(what));
-    }
-    return text.toString();
-  }
-
-  private static void fill(WatchedKeys x, int from, int keys) {
-    for (int key = from; key < from + keys; key++) {
-      x.put(key, key, 0);
-    }
   }
 
   private static void newObject() {
@@ -1588,13 +1464,16 @@ public final class PromiseTests {
         PromiseTests::commit, PromiseTests::drop, PromiseTests::writeKey,
         PromiseTests::outputByte, PromiseTests::saveSnapshot, PromiseTests::restoreSnapshot,
     };
+    place = "constants";
     constants();
+    int promise = 0;
     for (Test test : tests) {
       promise++;
+      place = "promise " + promise;
       try {
         test.run();
       } catch (RuntimeException e) {
-        wrong.add("promise " + promise + ": " + e + " at " + e.getStackTrace()[0]);
+        wrong.add(place + ": " + e + " at " + e.getStackTrace()[0]);
       }
     }
     for (String line : wrong) {
