@@ -229,7 +229,9 @@ abstract class Bench {
   static String stored(WatchedKeys x) {
     StringBuilder text = new StringBuilder(counts(x));
     for (int i = 0; i < x.count(2); i++) {
-      text.append("\nkey ").append(key(x, x.keyAt(0, 999, i, 0)));
+      int key = x.keyAt(0, 999, i, 0);
+      text.append("\nkey ").append(key(x, key)).append(' ')
+          .append(x.versionAt(key, Math.max(1, x.get(key, 3))));
     }
     for (int i = 0; i < x.count(5); i++) {
       text.append("\nevent ").append(event(x, i));

@@ -39,6 +39,15 @@ final class LeaseEdges extends Bench {
     x.restoreSnapshot(0);
     x.revoke(11);
     due(12, x.grant(5));
+    for (int gone = 1; gone <= 8; gone++) {
+      WatchedKeys y = loaded("grant 11;grant 12;grant 13;grant 14;grant 15;grant 16;grant 17;grant 18");
+      y.revoke(gone);
+      due(9, y.grant(19));
+      for (int number = 1; number <= 9; number++) {
+        int ttl = number == gone ? NO_LEASE : 10 + number;
+        due(ttl + " " + ttl, y.lease(number, 0) + " " + y.lease(number, 1));
+      }
+    }
     dueRefusal(FULL, LeaseEdges::withEight, y -> y.grant(1));
     dueRefusal(FULL, LeaseEdges::withEight, y -> y.grant(1000));
   }

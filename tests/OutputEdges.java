@@ -231,12 +231,22 @@ final class OutputEdges extends Bench {
       x.watch(1, 2, 0, 1);
       x.commit();
       x.when(1, 1, 1, 1);
+      x.then(0, 20, 2);
       x.otherwise(0, 20, 1);
       due(8, x.restoreSnapshot(own));
       due(before, stored(x));
       due(3, x.grant(5));
       due("5:51 v2 l1", output(x));
       due(7, x.append(0L));
+      due(0, x.commit());
+      due("0 5", keys(x, 0));
+      due(8, x.restoreSnapshot(own));
+      x.put(7, 7, 0);
+      x.delete(7, 7);
+      x.put(7, 7, 0);
+      due(1, x.commit());
+      due("0 7 8", keys(x, 0));
+      due(80, x.get(8, 0));
     }
     WatchedKeys x = rich();
     x.saveSnapshot(1);

@@ -81,6 +81,10 @@ final class ScriptEdges extends Bench {
     dueError("tic 5", 0, 1, 0);
     dueError("t ick 5", 0, 1, 0);
     dueError("ticktick 5", 0, 1, 0);
+    dueError("ticka 5", 0, 1, 0);
+    dueError("tickz 5", 0, 1, 0);
+    dueError("atick 5", 0, 1, 0);
+    dueError("ztick 5", 0, 1, 0);
     dueError("puttick 5", 0, 1, 0);
     dueError("a 5", 0, 1, 0);
     dueError("zzzz 5", 0, 1, 0);
@@ -99,6 +103,17 @@ final class ScriptEdges extends Bench {
     dueError("tick 5z", 6, 1, 0);
     dueError("tick 5" + (char) (128 + '5'), 6, 1, 0);
     dueError((char) (128 + 't') + "ick 5", 0, 1, 0);
+    for (String statement : new String[] {"put 1 1", "del 1", "grant 1", "keep 1", "revoke 1",
+        "watch 1 1", "compact 1", "revert 1", "tick 1", "attach 1 0"}) {
+      for (int i = 0; i < statement.indexOf(' '); i++) {
+        dueError(statement.substring(0, i) + 'x' + statement.substring(i + 1), 0, 1, 0);
+        dueError(statement.substring(0, i) + statement.substring(i + 1), 0, 1, 0);
+        dueError(statement.substring(0, i) + 'x' + statement.substring(i), 0, 1, 0);
+      }
+      for (int i = 1; i < statement.indexOf(' '); i++) {
+        dueError(statement.substring(0, i) + ' ' + statement.substring(i), 0, 1, 0);
+      }
+    }
     due("123", keys(loaded("put 123 4"), 0));
     due(1000, loaded("tick 1000").count(6));
     due(890, loaded("tick 0123;tick 0767").count(6));
@@ -458,8 +473,13 @@ final class ScriptEdges extends Bench {
     due(0, x.watch(5, 5, 1, 0));
     due("5 5 0 1 0 1 0", watch(x, 0));
     due(NO_VALUE, x.taken(0, 0));
+    x = rich();
+    append(x, ";tick 2");
+    due(2, x.load());
     append(x, "compact 1");
-    x.load();
+    due(1, x.load());
+    due("1 1 0 0 0 0 0 0 0 0", counts(x));
+    due(1, x.grant(5));
     append(x, "revert 1;put 1 1");
     due(2, x.load());
     due("2 0 1 0 0 1 0 0 0 0", counts(x));

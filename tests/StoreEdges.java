@@ -287,6 +287,20 @@ final class StoreEdges extends Bench {
     x = withManyEvents();
     x.revert(2);
     due("117 2 6 0 0 117 0 0 0 0", counts(x));
+    x = filled(0, 16);
+    x.delete(0, 999);
+    fill(x, 100, 16);
+    for (int i = 0; i < 72; i++) {
+      x.put(100 + i % 3, 1000 + i, 0);
+    }
+    due("106 0 16 0 0 120 0 0 0 0", counts(x));
+    due(32, x.revert(17));
+    due("107 18 16 0 0 120 0 0 0 0", counts(x));
+    due("107 1 100 0 1069 0", event(x, 88));
+    due("107 0 15 15 " + NO_VALUE + " 0", event(x, 119));
+    due(16, x.keysAt(100, 115, 106));
+    due(0, x.keysAt(0, 999, 18));
+    due(COMPACTED, x.keysAt(0, 999, 17));
   }
 
   @Holds(at = "Promise 6", says = {
@@ -435,7 +449,9 @@ final class StoreEdges extends Bench {
     due(7, x.keyAt(0, 999, 0, 2));
     due(NONE, x.keyAt(0, 999, 1, 2));
     due(FUTURE, x.keyAt(0, 999, 0, 8));
+    due(FUTURE, x.keyAt(0, 999, 16, 8));
     x.compact(4);
+    due(COMPACTED, x.keyAt(0, 999, -1, 3));
     due(COMPACTED, x.keyAt(0, 999, 0, 3));
     due(3, x.keyAt(0, 999, 0, 4));
   }

@@ -442,6 +442,9 @@ final class WatchEdges extends Bench {
       due(OUTSIDE, answerOf(() -> x.watchValue(7, 0)));
       due(7, x.watch(100, 200, 0, 0));
       due("100 200 0 0 0 0 0", watch(x, 7));
+      for (int watch = 0; watch < 7; watch++) {
+        due(before[watch < gone ? watch : watch + 1], watch(x, watch) + " " + x.taken(watch, 0));
+      }
     }
     WatchedKeys x = loaded("watch 1 1");
     due(0, x.unwatch(0));
@@ -488,6 +491,15 @@ final class WatchEdges extends Bench {
     due(6, x.safe());
     x.take(1);
     due(7, x.safe());
+    WatchedKeys missing = withHistory();
+    missing.watch(5, 6, 1, 0);
+    missing.compact(2);
+    due(2, missing.safe());
+    missing.compact(4);
+    due(MISSED, missing.take(0));
+    due(4, missing.safe());
+    missing.compact(6);
+    due(6, missing.safe());
     for (int goal = 1; goal <= 6; goal++) {
       WatchedKeys y = withHistory();
       y.watch(6, 6, 4, 0);
@@ -557,6 +569,8 @@ final class WatchEdges extends Bench {
     due(NONE, x.slowest());
     due(1, loaded("watch 1 1;watch 0 9;put 1 1;put 2 1").slowest());
     due(0, loaded("watch 1 2;watch 0 9;put 1 1;put 2 1").slowest());
+    due(0, loaded("watch 0 9;watch 1 1;put 1 1;put 2 1").slowest());
+    due(1, loaded("watch 1 1;watch 0 9;watch 1 2;watch 1 1;put 1 1;put 2 1;put 3 1").slowest());
   }
 
   @Holds(at = "Promise 37", says = {
