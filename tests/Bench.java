@@ -56,14 +56,23 @@ abstract class Bench {
     return "";
   }
 
-  /** An answer, or what was thrown; a text of the machine's own with it is told, so that it differs. */
   static Object answerOf(Call call) {
     try {
       return call.answer();
     } catch (RuntimeException e) {
-      String text = e.getMessage() == null ? "" : " " + e.getMessage();
-      return "throws." + e.getClass().getSimpleName() + text;
+      return nameOf(e);
     }
+  }
+
+  /**
+   * Tells an exception by its name. What the machine throws has another name than what a program
+   * throws, or comes out of the library, which is told with it.
+   */
+  static String nameOf(Throwable thrown) {
+    StackTraceElement[] trace = thrown.getStackTrace();
+    String thrower = trace.length == 0 ? "" : trace[0].getClassName();
+    boolean isLibrary = thrower.startsWith("java.") || thrower.startsWith("jdk.");
+    return "throws." + thrown.getClass().getSimpleName() + (isLibrary ? " from " + thrower : "");
   }
 
   static void dueIllegal(Call call) {

@@ -16,6 +16,12 @@ import java.util.regex.Pattern;
 /** The face of WatchedKeys, and the rules of ../shared/LANGUAGE.md that its text can be held to. */
 public final class LanguageTests {
   private static final List<String> wrong = new ArrayList<>();
+  // Where a rule says "some twelve", "some twenty", "some sixty", a little more is let pass.
+  private static final int MOST_CLASSES = 14;
+  private static final int MOST_FIELDS = 22;
+  private static final int MOST_LINES = 66;
+  // No object takes less than 16 bytes, so that this is a fifth of the room of 600,000 at most.
+  private static final long MOST_BYTES = 2000000;
 
   private static void need(boolean right, String what) {
     if (!right) {
@@ -54,7 +60,9 @@ public final class LanguageTests {
   private static Set<String> faceOfClass() throws IllegalAccessException {
     Set<String> face = new TreeSet<>();
     for (Constructor<?> one : WatchedKeys.class.getDeclaredConstructors()) {
-      face.add("public WatchedKeys(" + names(one.getParameterTypes()) + ")");
+      if (!Modifier.isPrivate(one.getModifiers())) {
+        face.add("public WatchedKeys(" + names(one.getParameterTypes()) + ")");
+      }
     }
     for (Method one : WatchedKeys.class.getDeclaredMethods()) {
       if (!Modifier.isPrivate(one.getModifiers()) && !one.isSynthetic()) {
@@ -86,16 +94,17 @@ public final class LanguageTests {
     return rest;
   }
 
-  private static void testInnerClasses() {
+  private static void testClasses() {
     Set<String> faceNames = new TreeSet<>();
     for (Method method : WatchedKeys.class.getMethods()) {
       faceNames.add(method.getName());
     }
     Class<?>[] inner = WatchedKeys.class.getDeclaredClasses();
-    need(inner.length <= 12, "rule 11: " + inner.length + " classes inside");
+    need(inner.length < MOST_CLASSES, "rule 11: " + inner.length + " classes inside");
     for (Class<?> one : inner) {
-      need(Modifier.isStatic(one.getModifiers()), "rule 2: " + one + " is not static");
-      need(!Modifier.isPublic(one.getModifiers()), "rule 1: " + one + " is public");
+      boolean isHidden = !Modifier.isPublic(one.getModifiers()) && !Modifier.isProtected(one.getModifiers());
+      need(Modifier.isStatic(one.getModifiers()), "rule 1: " + one + " is not static");
+      need(isHidden, "rule 1: " + one + " is public or protected");
       testMembers(one, faceNames);
     }
     testMembers(WatchedKeys.class, faceNames);
@@ -108,38 +117,70 @@ public final class LanguageTests {
       fields += isStatic ? 0 : 1;
       need(!isStatic || Modifier.isFinal(field.getModifiers()), "rule 5: " + field);
     }
-    need(fields <= 20, "rule 11: " + one + " has " + fields + " fields");
+    need(fields <= MOST_FIELDS, "rule 11: " + one + " has " + fields + " fields");
     for (Method method : one.getDeclaredMethods()) {
-      boolean hidden = Modifier.isPrivate(method.getModifiers()) && !method.isSynthetic();
-      need(!hidden || !faceNames.contains(method.getName()), "rule 1: " + method);
+      boolean isHidden = Modifier.isPrivate(method.getModifiers()) && !method.isSynthetic();
+      need(!isHidden || !faceNames.contains(method.getName()), "rule 1: " + method);
       need(method.getParameterCount() <= 7, "rule 11: " + method);
     }
   }
 
-  private static void testText(String source) {
-    String code = source.replaceAll("(?s)/\\*.*?\\*/", "").replaceAll("//[^\n]*", "")
-        .replaceAll("\"[^\"]*\"", "\"\"");
-    for (char sign : source.toCharArray()) {
-      need(sign == '\n' || sign >= ' ' && sign < 127, "a sign of the source: " + (int) sign);
+  /** The text without comments; of texts in it, the quotes alone. */
+  private static String codeOf(String source) {
+    return source.replaceAll("(?s)/\\*.*?\\*/", "").replaceAll("//[^\n]*", "")
+        .replaceAll("\"(\\\\.|[^\"\\\\])*\"", "\"\"");
+  }
+
+  private static void testWords(String code) {
+    String[][] rules = {
+        {"no package", "\\bpackage\\b"}, {"2: method reference", "::"},
+        {"2: lambda", "(\\)|\\b(?!default\\b)[a-z]\\w*) ->"}, {"3: Object", "\\bObject\\b"},
+        {"4: Exact", "\\w+Exact\\("}, {"5: initialiser block", "\\bstatic \\{"},
+        {"6: synchronized", "\\bsynchronized\\b"}, {"6: assert", "\\bassert\\b"},
+        {"6: finally", "\\bfinally\\b"}, {"6: try with resources", "\\btry \\("},
+        {"6: hashCode", "\\bhashCode\\b"}, {"6: getMessage", "\\bgetMessage\\b"},
+        {"6: exception class", "\\bextends \\w*(Exception|Error|Throwable)\\b"},
+        {"6: catch", "\\bcatch \\((final )?(Exception|Throwable|Error|ArrayIndexOutOfBoundsException"
+            + "|NullPointerException|ClassCastException|NegativeArraySizeException|ArrayStoreException)\\b"},
+        {"9: endless loop", "\\bwhile \\(true\\)|\\bfor \\(;;"},
+        {"13: clock, chance, outside", "\\b(Thread|Random|nanoTime|currentTimeMillis|volatile|getenv"
+            + "|Runtime|File|Files|Socket)\\b"}};
+    for (String[] rule : rules) {
+      Matcher found = Pattern.compile(rule[1]).matcher(code);
+      need(!found.find(), "rule " + rule[0]);
     }
-    need(code.startsWith("import java.util.Arrays;\n"), "no package, one import");
-    need(code.indexOf("import", 6) < 0, "rule 4: more than one import");
-    String[] banned = {"->", "::", "synchronized", "assert ", "finally", "try ", "catch", "%", "Exact",
-        "hashCode", "toString", "equals(", "java.lang", "Object", "static {", "instanceof", "volatile",
-        "Thread", "nanoTime", "currentTime", "Random", "var ", "while (true)", "for (;;", "record "};
-    for (String word : banned) {
-      need(!code.contains(word), "not in the language's part: " + word);
+  }
+
+  private static void testLibrary(String code) {
+    Matcher imports = Pattern.compile("(?m)^import (.*);").matcher(code);
+    while (imports.find()) {
+      need(imports.group(1).matches("java\\.util\\.(Arrays|ArrayList|List|Iterator|NoSuchElementException)"),
+          "rule 4: import " + imports.group(1));
     }
-    Matcher library = Pattern.compile("\\b(Math|System|Arrays|Integer|Long|String)\\.(\\w+)").matcher(code);
-    Set<String> allowed = Set.of("Math.min", "Math.max", "System.arraycopy", "Arrays.fill");
-    while (library.find()) {
-      need(allowed.contains(library.group()), "rule 4: " + library.group());
+    Matcher calls = Pattern.compile("\\b(Math|System|Arrays|String|StringBuilder)\\.(\\w+)").matcher(code);
+    Set<String> ofMath = Set.of("min", "max", "abs", "floorDiv", "floorMod");
+    Set<String> ofArrays = Set.of("copyOf", "copyOfRange", "fill");
+    while (calls.find()) {
+      boolean isAllowed = switch (calls.group(1)) {
+        case "Math" -> ofMath.contains(calls.group(2));
+        case "Arrays" -> ofArrays.contains(calls.group(2));
+        case "System" -> calls.group(2).equals("arraycopy");
+        default -> false;
+      };
+      need(isAllowed, "rule 4: " + calls.group());
     }
-    Matcher thrown = Pattern.compile("throw ([^;]*);").matcher(code);
-    Set<String> exceptions =
-        Set.of("new IllegalArgumentException()", "new IndexOutOfBoundsException()");
+    Matcher thrown = Pattern.compile("\\bthrow ([^;]*);").matcher(code);
     while (thrown.find()) {
-      need(exceptions.contains(thrown.group(1)), "rule 6: throw " + thrown.group(1));
+      need(thrown.group(1).matches("new (IllegalState|IllegalArgument|IndexOutOfBounds|Arithmetic"
+          + "|UnsupportedOperation|NoSuchElement|Runtime)Exception\\((\"\")?\\)"),
+          "rule 6: throw " + thrown.group(1));
+    }
+  }
+
+  private static void testSigns(String source) {
+    Matcher texts = Pattern.compile("\"(\\\\.|[^\"\\\\\n])*\"|'(\\\\.|[^'\\\\])'").matcher(source);
+    while (texts.find()) {
+      need(texts.group().chars().allMatch(sign -> sign >= 1 && sign <= 127), "rule 4: " + texts.group());
     }
   }
 
@@ -149,12 +190,11 @@ public final class LanguageTests {
     int line = 0;
     for (String text : source.split("\n")) {
       line++;
-      need(text.length() <= 110, "line " + line + " is long");
       if (text.matches(" {2}( {2})?(\\w.*)?\\w+\\(.*\\{") && !text.contains("class ")) {
         start = line;
       }
       if (text.matches(" {2}( {2})?\\}") && start > 0) {
-        need(line - start < 60, "rule 11: a long method at line " + start);
+        need(line - start < MOST_LINES, "rule 11: a long method at line " + start);
         start = 0;
       }
     }
@@ -170,7 +210,7 @@ public final class LanguageTests {
       useMuch();
       least = Math.min(least, threads.getThreadAllocatedBytes(Thread.currentThread().getId()) - before);
     }
-    need(least < 500000, "a run of 512 calls takes " + least + " bytes");
+    need(least < MOST_BYTES, "a run of 512 calls takes " + least + " bytes");
   }
 
   private static void useMuch() {
@@ -191,9 +231,12 @@ public final class LanguageTests {
 
   public static void main(String[] args) throws IOException, IllegalAccessException {
     String source = Files.readString(Path.of("src/main/java/WatchedKeys.java"));
+    String code = codeOf(source);
     testFace();
-    testInnerClasses();
-    testText(source);
+    testClasses();
+    testWords(code);
+    testLibrary(code);
+    testSigns(source);
     testLengths(source);
     testRoom();
     for (String line : wrong) {

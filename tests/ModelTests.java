@@ -1120,12 +1120,11 @@ public final class ModelTests {
     }
   }
 
-  /** An exception of the machine's own has a text with it, and so differs from the model's. */
   private static String answer(Object object, Method method, Object... arguments) {
     try {
       return String.valueOf(method.invoke(object, arguments));
     } catch (InvocationTargetException e) {
-      return "throws." + e.getCause();
+      return Bench.nameOf(e.getCause());
     } catch (IllegalAccessException e) {
       throw new IllegalStateException(e);
     }
