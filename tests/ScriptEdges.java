@@ -502,6 +502,16 @@ final class ScriptEdges extends Bench {
       due(-100, x.load());
       due("5:51 v2 l1", output(x));
     }
+    String[][] later = {{"tick 55", "tick 5", "1"}, {"tick 55", "tick ", "-105"},
+        {"put 1 -5", "put 1 -", "-106"}, {"put 1 -5", "put 1 ", "-106"},
+        {"tick 5;tick 5", "tick 5;", "-107"},
+        {"put 1 5 0", "put 1 5 ", "1"}, {"put 1 5 1", "put 1 5", "1"}, {"del 1 9", "del 1", "1"}};
+    for (String[] one : later) {
+      append(x, one[0]);
+      x.load();
+      append(x, one[1]);
+      due(one[1] + " " + one[2], one[1] + " " + x.load());
+    }
     append(x, " ".repeat(500));
     due(-600, x.load());
     due(8, x.append(-1L));

@@ -450,6 +450,15 @@ final class StoreEdges extends Bench {
     due(NONE, x.keyAt(0, 999, 1, 2));
     due(FUTURE, x.keyAt(0, 999, 0, 8));
     due(FUTURE, x.keyAt(0, 999, 16, 8));
+    WatchedKeys y = loaded("put 3 1;put 5 1;put 7 1;del 7");
+    due(7, y.keyAt(0, 999, 2, 4));
+    for (int from = 0; from <= 6; from++) {
+      for (int index = 0; index <= 4; index++) {
+        int due = from <= 3 && index == 0 ? 3 : from <= 3 && index == 1 || from == 4 && index == 0
+            || from == 5 && index == 0 ? 5 : NONE;
+        due(from + " " + index + " " + due, from + " " + index + " " + y.keyAt(from, 999, index, 0));
+      }
+    }
     x.compact(4);
     due(COMPACTED, x.keyAt(0, 999, -1, 3));
     due(COMPACTED, x.keyAt(0, 999, 0, 3));

@@ -384,6 +384,13 @@ final class TransactionEdges extends Bench {
     x = filled(0, 16);
     x.then(0, 3, 0);
     x.then(0, 15, 0);
+    x.then(0, 500, 0);
+    due(FULL, x.commit());
+    due(3, x.drop());
+    x.then(0, 3, 0);
+    due(1, x.commit());
+    x.then(0, 3, 0);
+    x.then(0, 15, 0);
     due(1, x.commit());
     due(16, x.count(2));
   }
